@@ -199,6 +199,14 @@ public final class ActsTest {
         book.act(2, 2, -1, 219, true);
         CHECK.due("13: 9 to 19 ago", mark(book, 2, 1), 1);
         isSince("13: perhaps", book, 2, 1, 219, 219);
+        int[][] due = {{209, 2}, {210, 1}, {214, 1}, {215, 0}};
+        for (int[] one : due) {
+            book = book(1000, "t:xa>y+a;c:xa<10>x+b", 1, 0);
+            book.act(0, 0, 1, 200, true);
+            book.act(0, 0, 1, 205, false);
+            book.act(2, 1, -1, one[0], true);
+            CHECK.due("13: surely there since 200 to 205, at " + one[0], mark(book, 1, 1), one[1]);
+        }
         book = book(1000, "t:xa>y+a;c:xa<10>x+b;l:!xa<9>x+c", 1, 0);
         book.act(0, 0, 1, 100, false);
         book.act(2, 1, -1, 101, true);

@@ -18,7 +18,7 @@ public final class ModelTest {
         random = new Random(seed);
         // Each run has its own kind of calls and its own pace of time.
         focus = seed % 4;
-        step = new int[] {20, 300, 1500, 20000}[random.nextInt(4)];
+        step = new int[] {2, 6, 20, 300, 1500, 20000}[random.nextInt(6)];
     }
 
     public static void main(String[] args) {
