@@ -38,6 +38,11 @@ public final class FaceTest {
             }
         }
         check.is("methods " + seen, seen.equals(face));
+        for (Class<?> inside : SealBook.class.getDeclaredClasses()) {
+            for (Method method : inside.getDeclaredMethods()) {
+                check.is("named as no public one: " + method, !publicNames.contains(method.getName()));
+            }
+        }
         checkTheRest(check);
         check.end();
     }

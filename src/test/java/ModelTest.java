@@ -6,18 +6,28 @@ public final class ModelTest {
     private static final int CALLS = 512;
     private static final String[] PIECES = {"1", "xa", "ya", "xb", "yb", "xc", "yc", "xa<", "ya<", "xb<", "yb<"};
 
+    // Of a hundred calls, those that tell acts and laws, that ask of them, of kitchens and of visits.
+    private static final int[][] PARTS = {{60, 30, 5, 5}, {25, 65, 5, 5}, {10, 10, 70, 10}, {10, 10, 10, 70}};
+    // Laws by which marks go from thing to thing, and are not easily gone.
+    private static final String[] SPREADING = {
+        "t:xa>y+a", "t:xa|xb>y+b", "k:xa&!yb>y+c,x-c", "t:xa>y+a,y+b,y+c;c:!xa>x-b;c:1>x-a",
+        "t:xa<40>y+a;k:xa>y+b;c:xa<12>x-a", "t:xa>y+a;c:!xa&!xb>x-c;c:!xa>x-b;c:1>x-a;k:xa>y+a,y+b,y+c",
+        "t:xa>y+b;t:xb>y+c;t:xc>y+a;l:xa>x-a", "t:xa>y+a;l:xa<9>x-a;c:xa<5|xb>x-b,x-a;k:1>x+c",
+    };
+
     private final Check check;
     private final Random random;
     private final SealBook book = new SealBook();
     private final Model model = new Model();
     private final int focus;
     private final int step;
+    private boolean spreads;
 
     private ModelTest(Check check, int seed) {
         this.check = check;
         random = new Random(seed);
         // Each run has its own kind of calls and its own pace of time.
-        focus = seed % 4;
+        focus = seed / 2 % 4;
         step = new int[] {2, 6, 20, 300, 1500, 20000}[random.nextInt(6)];
     }
 
@@ -25,6 +35,9 @@ public final class ModelTest {
         Check check = new Check("ModelTest");
         for (int seed = 0; seed < RUNS; seed++) {
             ModelTest run = new ModelTest(check, seed);
+            if (seed % 2 == 0) {
+                run.spread();
+            }
             for (int k = 0; k < CALLS; k++) {
                 run.call();
             }
@@ -33,6 +46,28 @@ public final class ModelTest {
             new ModelTest(check, seed).fault();
         }
         check.end();
+    }
+
+    /** Things, spreading laws, mistakes and acts behind them, so that there is something to follow. */
+    private void spread() {
+        spreads = true;
+        for (int k = 4 + random.nextInt(4); k > 0; k--) {
+            int marks = random.nextInt(8) & random.nextInt(8) & random.nextInt(8);
+            due("thing", book.thing(marks), model.thing(marks));
+        }
+        for (int k = 0; k < 4; k++) {
+            law(SPREADING[random.nextInt(SPREADING.length)]);
+        }
+        for (int k = 1 + random.nextInt(3); k > 0; k--) {
+            now(random.nextInt(step));
+            int thing = random.nextInt(model.things.size());
+            int mark = random.nextInt(2);
+            due("mistake", book.mistake(thing, mark, model.now), model.mistake(thing, mark, model.now));
+        }
+        for (int k = 3 + random.nextInt(20); k > 0; k--) {
+            now(random.nextInt(step));
+            addAct(random.nextInt(3) > 0);
+        }
     }
 
     private int upTo(int bound) {
@@ -69,8 +104,7 @@ public final class ModelTest {
     }
 
     private void call() {
-        int[] parts = {10, 10, 10, 10};
-        parts[focus] += 60;
+        int[] parts = PARTS[focus];
         int dice = random.nextInt(100);
         if (dice < parts[0]) {
             actsCall();
@@ -105,7 +139,7 @@ public final class ModelTest {
             addThing();
             return;
         }
-        switch (random.nextInt(24)) {
+        switch (random.nextInt(spreads ? 48 : 24)) {
             case 0:
                 int minute = model.now + random.nextInt(step * 2) - step / 10;
                 due("now", book.now(minute), model.now(minute));
@@ -119,7 +153,13 @@ public final class ModelTest {
             case 2:
             case 3:
             case 4:
-                law(lawText());
+                if (!spreads) {
+                    law(lawText());
+                } else if (random.nextInt(12) == 0) {
+                    law(random.nextBoolean() ? lawText() : SPREADING[random.nextInt(SPREADING.length)]);
+                } else {
+                    addAct(true);
+                }
                 break;
             case 5:
                 if (random.nextInt(3) == 0) {
@@ -127,6 +167,7 @@ public final class ModelTest {
                 }
                 break;
             case 6:
+            case 47:
                 int act = upTo(model.acts.size());
                 due("strike", book.strike(act), model.strike(act));
                 break;
