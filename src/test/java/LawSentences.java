@@ -525,6 +525,6 @@ final class LawSentences {
         // Read so: a 1 that is a digit of a number is none of these signs.
         due("t:" + "1|".repeat(79) + "xa<111111>x+a", 0);
         due("t:xa<111111|" + "1|".repeat(78) + "1>x+a", 0);
-        due("t:xa<111111|" + "1|".repeat(78) + "1|y", 6172);
+        due("t:xa<111111|" + "1|".repeat(78) + "1|y", 6170);
     }
 }
