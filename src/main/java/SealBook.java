@@ -365,7 +365,8 @@ public final class SealBook {
             case 12:
                 return reader.bytes;
             case 13:
-                return countQuarrels();
+                askBothSchools();
+                return quarrelsHeld();
             default:
                 return NONE;
         }
@@ -414,8 +415,7 @@ public final class SealBook {
         return NONE;
     }
 
-    private int countQuarrels() {
-        askBothSchools();
+    private int quarrelsHeld() {
         int found = 0;
         for (int place = 0; place < ledger.things * MARKS; place++) {
             if (held.value[place] != heldByOther.value[place]) {
@@ -611,7 +611,12 @@ public final class SealBook {
             operands = 0;
             bytes = 0;
             for (int k = 0; k <= Law.MOST_RULES && n > 0; k++) {
-                readRule(k);
+                int kind = readKind(k);
+                expect(':');
+                readCondition(0);
+                expect('>');
+                readEffects();
+                read.addRule(kind);
                 if (fault != 0 || at >= end) {
                     break;
                 }
@@ -620,22 +625,16 @@ public final class SealBook {
             return fault == 0 ? 0 : 1000 * fault + at;
         }
 
-        private void readRule(int number) {
+        private int readKind(int number) {
             int kind = kindOf(sign());
             if (kind == NONE) {
                 fail(OUT_OF_PLACE);
-                return;
-            }
-            if (number >= Law.MOST_RULES) {
+            } else if (number >= Law.MOST_RULES) {
                 fail(RULES);
-                return;
+            } else {
+                at++;
             }
-            at++;
-            expect(':');
-            readCondition(0);
-            expect('>');
-            readEffects();
-            read.addRule(kind);
+            return kind;
         }
 
         private void readCondition(int open) {
@@ -657,18 +656,16 @@ public final class SealBook {
         }
 
         private void readPiece(int open) {
+            int inside = open;
+            for (int k = 0; k <= MOST_OPEN && goesOn('!') && mayOpen(inside); k++) {
+                at++;
+                inside++;
+            }
             switch (sign()) {
-                case '!':
-                    if (mayOpen(open)) {
-                        at++;
-                        readPiece(open + 1);
-                        read.addStep(Law.NOT, 0, 0);
-                    }
-                    break;
                 case '(':
-                    if (mayOpen(open)) {
+                    if (mayOpen(inside)) {
                         at++;
-                        readCondition(open + 1);
+                        readCondition(inside + 1);
                         expect(')');
                     }
                     break;
@@ -680,6 +677,9 @@ public final class SealBook {
                 default:
                     fail(OUT_OF_PLACE);
                     break;
+            }
+            for (int k = open; k < inside; k++) {
+                read.addStep(Law.NOT, 0, 0);
             }
         }
 
@@ -832,16 +832,13 @@ public final class SealBook {
         }
 
         void join(int place, int is, int from, int to) {
-            if (is == 0) {
-                value[place] = Math.min(value[place], 1);
-            } else if (value[place] == 0) {
+            boolean isNew = value[place] == 0;
+            if (value[place] != is) {
                 value[place] = 1;
-                earliest[place] = from;
-                latest[place] = to;
-            } else {
-                value[place] = Math.min(value[place], is);
-                earliest[place] = Math.min(earliest[place], from);
-                latest[place] = Math.max(latest[place], to);
+            }
+            if (is != 0) {
+                earliest[place] = isNew || from < earliest[place] ? from : earliest[place];
+                latest[place] = isNew || to > latest[place] ? to : latest[place];
             }
         }
 
@@ -1128,12 +1125,12 @@ public final class SealBook {
                 return 0;
             }
             int place = thing * MARKS + (coded & Law.MARK_MASK);
-            return kind == Law.HAS ? ahead.value[place] : askLately(place, minute, step >> 7);
-        }
-
-        private int askLately(int place, int minute, int limit) {
             int is = ahead.value[place];
-            if (is == 0 || minute - ahead.latest[place] >= limit) {
+            if (kind == Law.HAS || is == 0) {
+                return is;
+            }
+            int limit = step >> 7;
+            if (minute - ahead.latest[place] >= limit) {
                 return 0;
             }
             return minute - ahead.earliest[place] < limit ? is : 1;
